@@ -349,7 +349,11 @@ public final class PlaneGroups {
 
         /** The code of the point to which a move takes a point; all numbers are small. */
         int target(int k, int u, int v, int x, int y) {
-            return point(linearX(k, x, y) + u, linearY(k, x, y) + v);
+            if (size < 1) {
+                return 0;
+            }
+            int column = Math.floorMod(linearX(k, x, y) + u, size);
+            return Math.floorMod(linearY(k, x, y) + v, size) * size + column;
         }
 
         int code(int k, int u, int v) {
@@ -702,6 +706,10 @@ public final class PlaneGroups {
         }
 
         boolean fixes(int k, int p, int q) {
+            // Most patterns have few LINEARS, and this is asked for each place and each LINEAR.
+            if (across[k] == NONE) {
+                return false;
+            }
             int wayX = p - moves.linearX(k, p, q);
             int wayY = q - moves.linearY(k, p, q);
             return wayX % SIXTHS == 0 && wayY % SIXTHS == 0

@@ -60,12 +60,22 @@ public final class OracleTest {
         x = new PlaneGroups();
         o = new Oracle();
         for (int i = 0; i < 2; i++) {
-            makePattern();
+            if (i == 0 && number < Samples.ALL.length) {
+                makeSample(Samples.ALL[number]);
+            } else {
+                makePattern();
+            }
             lookAtAll();
             for (int j = 0; j < 40; j++) {
                 oneCall();
             }
         }
+    }
+
+    private void makeSample(int[] sample) {
+        due("begin", x.begin(Samples.sortOf(sample), 12), o.begin(Samples.sortOf(sample), 12));
+        paintAll(12, 10);
+        sampleGenerators(sample);
     }
 
     private void makePattern() {
@@ -76,7 +86,7 @@ public final class OracleTest {
             case 0: paintFormula(n); break;
             case 1: paintSingles(n); break;
             case 2: paintAll(n, 2 + some(9)); stripGenerators(); break;
-            case 3: case 4: paintAll(n, 2 + some(9)); sampleGenerators(sort); break;
+            case 3: case 4: paintAll(n, 2 + some(9)); sampleOf(sort); break;
             default: paintAll(n, 2 + some(9)); addGenerators(); break;
         }
     }
@@ -85,11 +95,19 @@ public final class OracleTest {
         due("generate(" + k + ", " + u + ", " + v + ")", x.generate(k, u, v), o.generate(k, u, v));
     }
 
-    private void sampleGenerators(int sort) {
+    private void sampleOf(int sort) {
         int[] sample = Samples.ALL[some(Samples.ALL.length)];
+        if (sort == Samples.sortOf(sample)) {
+            sampleGenerators(sample);
+        }
+    }
+
+    private void sampleGenerators(int[] sample) {
         int half = Math.max(1, o.count(1) / 2);
-        for (int i = 2; sort == Samples.sortOf(sample) && i + 2 < sample.length; i += 3) {
-            generate(sample[i], sample[i + 1] == 6 ? half : sample[i + 1], sample[i + 2] == 6 ? half : sample[i + 2]);
+        for (int i = 2; i + 2 < sample.length; i += 3) {
+            int u = sample[i + 1] == 6 ? half : sample[i + 1];
+            int v = sample[i + 2] == 6 ? half : sample[i + 2];
+            generate(sample[i], u, v);
         }
         due("spread()", x.spread(), o.spread());
     }

@@ -63,6 +63,15 @@ public final class PromiseTest {
         due("1: count(2)", x.count(2), 1);
         due("1: count(3)", x.count(3), 0);
         due("1: colour(3, -4)", x.colour(3, -4), 0);
+        int[] due = {0, 1, 1, 0, 1, 8, 8, 4, 1, 8, 1};
+        for (int what = 0; what <= 10; what++) {
+            due("1: of a new one: count(" + what + ")", new PlaneGroups().count(what), due[what]);
+        }
+        due("1: of a new one: goes(7, 0, 0, 0, 0, 1)", new PlaneGroups().goes(7, 0, 0, 0, 0, 1), 0);
+        due("1: of a new one: goes(8, 0, 0, 0, 0, 1)", new PlaneGroups().goes(8, 0, 0, 0, 0, 1), BAD);
+        due("1: of a new one: spread()", new PlaneGroups().spread(), 0);
+        due("1: of a new one: orbit(1, 1)", new PlaneGroups().orbit(1, 1), 1);
+        due("1: of a new one: feature(2, 0)", new PlaneGroups().feature(2, 0), 1);
         due("1: strip(0, 1)", x.strip(0, 1), 7);
         due("1: NONE", PlaneGroups.NONE, NONE);
         due("1: BAD", PlaneGroups.BAD, BAD);
@@ -72,7 +81,9 @@ public final class PromiseTest {
     private void begin() {
         x = new PlaneGroups();
         due("2: begin(0, 12)", x.begin(0, 12), 1);
-        due("2: begin(1, 5)", x.begin(1, 5), 12);
+        due("2: begin(0, 1)", x.begin(0, 1), 12);
+        due("2: begin(1, 1)", x.begin(1, 1), 1);
+        due("2: begin(1, 5)", x.begin(1, 5), 1);
         due("2: count(0)", x.count(0), 1);
         due("2: count(1)", x.count(1), 5);
         x.paint(2, 3, 4);
@@ -130,6 +141,10 @@ public final class PromiseTest {
         duePattern("paints", "0000", "0012", "1100", "9678");
         due("5: paints(HIGHEST, LOWEST, 2, HIGHEST)", x.paints(HIGHEST, LOWEST, 2, HIGHEST), 2);
         duePattern("paints", "4007", "0012", "1100", "9678");
+        due("5: paints(3, 0, 1, 98)", x.paints(3, 0, 1, 98), 1);
+        due("5: paints(3, 0, 1, 0)", x.paints(3, 0, 1, 0), 1);
+        due("5: paints(3, 0, 1, 0) again", x.paints(3, 0, 1, 0), 0);
+        due("5: paints(3, 0, 1, 7)", x.paints(3, 0, 1, 7), 1);
         int[][] wrong = {{0, 5}, {10, 5}, {-1, 5}, {1, -1}, {LOWEST, 5}, {HIGHEST, 5}, {9, LOWEST}};
         for (int[] w : wrong) {
             due("5: paints(0, 0, " + w[0] + ", " + w[1] + ")", x.paints(0, 0, w[0], w[1]), BAD);
