@@ -548,8 +548,10 @@ public final class CallEdgesTest extends Sentences {
     }
 
     private void countRefuses() {
-        sentence(6, "Of the PATTERN: what = 0 the sort");
+        sentence(6, "10 CLASSES of points (of POINTS alone, not PLACES). BAD.");
         plain(SQUARES, 3);
+        due("count(0)", x.count(0), 0);
+        due("count(10)", x.count(10), 1);
         for (int what : new int[] {LOWEST, -2, -1, 11, 12, 256, HIGHEST}) {
             due("count(" + what + ")", x.count(what), BAD);
         }
@@ -676,11 +678,14 @@ public final class CallEdgesTest extends Sentences {
     }
 
     private void isEach() {
-        sentence(10, "0 no SYMMETRY, 1 one; 2 a CHANGE that is none.");
+        sentence(10, "0 no SYMMETRY, 1 one; 2 a CHANGE that is none. BAD.");
         pattern(SQUARES, "01", "01");
         due("is(0, 0, 1)", x.is(0, 0, 1), 1);
         due("is(0, 1, 0)", x.is(0, 1, 0), 2);
         due("is(1, 0, 0)", x.is(1, 0, 0), 0);
+        for (int k : new int[] {LOWEST, -1, 8, HIGHEST}) {
+            due("is(" + k + ", 0, 1)", x.is(k, 0, 1), BAD);
+        }
         plain(SQUARES, 1);
         for (int k = 0; k < 8; k++) {
             due("SIZE 1: is(" + k + ", HIGHEST, LOWEST)", x.is(k, HIGHEST, LOWEST), 1);

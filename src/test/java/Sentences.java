@@ -95,7 +95,7 @@ abstract class Sentences {
         }
     }
 
-    /** A new object whose moves all but one change the pattern in a way that no colours tell. */
+    /** A new object without any order: from SIZE 3 on that which leaves all is the only CHANGE. */
     final void disorder(int sort, int n) {
         plain(sort, n);
         for (int y = 0; y < n; y++) {

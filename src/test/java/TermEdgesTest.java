@@ -47,6 +47,14 @@ public final class TermEdgesTest extends Sentences {
             due("call " + (2 * i + 3) + ", kind()", x.kind(), 17);
         }
         due("call 512, count(5)", x.count(5), 12);
+        // What comes later may answer anything, but must answer.
+        for (int i = 0; i < 200; i++) {
+            x.paint(i, i, i % 10);
+            x.generate(i % 12, i, i);
+            x.spread();
+            x.kind();
+            x.halves();
+        }
     }
 
     private void roundOfSquares() {
